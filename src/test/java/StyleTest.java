@@ -6,6 +6,7 @@ public final class StyleTest {
     public static void main(String[] args) {
         ranges();
         firstValues();
+        toleranceAtFirst();
         refusedValueStays();
         widths();
         Checks.end();
@@ -77,6 +78,31 @@ public final class StyleTest {
         s.width('d', 6);
         Checks.due("2 over", s.paragraph(), 2);
         Checks.due("badness 100, class 0", s.badness(0), 100);
+    }
+
+    private static void toleranceAtFirst() {
+        GalleySetter s = new GalleySetter();
+        s.set(0, 89);
+        s.set(2, 50);
+        s.width('b', 60);
+        s.width('c', 29);
+        // 26 of 89 leave 63 of 50: badness 200; a last line as wide as the measure follows.
+        Checks.due("badness 200", Checks.paragraph(s, "a a bc"), 2);
+        Checks.due("its badness", s.badness(0), 30200);
+        s.set(0, 50);
+        s.set(2, 19);
+        s.width('b', 21);
+        // 26 of 50 leave 24 of 19: badness 201.
+        Checks.typed(s, "a a bc");
+        Checks.refused("badness 201", IllegalStateException.class, s::paragraph);
+        s.set(7, 201);
+        Checks.due("lines", s.paragraph(), 2);
+        Checks.due("its badness", s.badness(2), 30201);
+        s.set(0, 27);
+        s.set(2, 1);
+        s.width('b', 17);
+        Checks.due("1 of 1", Checks.paragraph(s, "a a ba"), 2);
+        Checks.due("its badness", s.badness(4), 20100);
     }
 
     private static void refusedValueStays() {
