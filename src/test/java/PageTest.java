@@ -13,20 +13,8 @@ public final class PageTest {
         Checks.end();
     }
 
-    /** A galley with paragraphs of so many lines. */
-    private static GalleySetter galley(int height, int... paragraphs) {
-        GalleySetter s = new GalleySetter();
-        s.set(0, 20);
-        s.set(8, height);
-        s.width('a', 20);
-        for (int lines : paragraphs) {
-            Checks.due("lines", Checks.paragraph(s, "a ".repeat(lines)), lines);
-        }
-        return s;
-    }
-
     private static void noSuchLine() {
-        GalleySetter s = galley(2, 3);
+        GalleySetter s = Checks.filled(2, 3);
         for (int k : new int[] {-1, 3, 60, Integer.MIN_VALUE, Integer.MAX_VALUE}) {
             Checks.refused("page", IndexOutOfBoundsException.class, () -> s.page(k));
         }
@@ -34,10 +22,10 @@ public final class PageTest {
     }
 
     private static void paragraphsOfOneLine() {
-        Checks.due("one line never stands alone", Checks.pages(galley(2, 1, 1, 1, 1, 1)), "0 0 1 1 2");
-        Checks.due("all that are left", Checks.pages(galley(5, 1, 1, 1, 1, 1)), "0 0 0 0 0");
-        Checks.due("one more", Checks.pages(galley(4, 1, 1, 1, 1, 1)), "0 0 0 0 1");
-        Checks.due("HEIGHT 10 at first", Checks.pages(galley(10, 6, 6)), "0 0 0 0 0 0 0 0 0 0 1 1");
+        Checks.due("one line never stands alone", Checks.pages(Checks.filled(2, 1, 1, 1, 1, 1)), "0 0 1 1 2");
+        Checks.due("all that are left", Checks.pages(Checks.filled(5, 1, 1, 1, 1, 1)), "0 0 0 0 0");
+        Checks.due("one more", Checks.pages(Checks.filled(4, 1, 1, 1, 1, 1)), "0 0 0 0 1");
+        Checks.due("HEIGHT 10 at first", Checks.pages(Checks.filled(10, 6, 6)), "0 0 0 0 0 0 0 0 0 0 1 1");
         GalleySetter s = new GalleySetter();
         for (int i = 0; i < 11; i++) {
             Checks.paragraph(s, "a");
@@ -46,34 +34,34 @@ public final class PageTest {
     }
 
     private static void firstLineAlone() {
-        Checks.due("the first at the foot", Checks.pages(galley(3, 2, 3)), "0 0 1 1 1");
-        Checks.due("two at the foot", Checks.pages(galley(3, 1, 4)), "0 0 0 1 1");
-        Checks.due("the first when all fit", Checks.pages(galley(3, 2, 1)), "0 0 0");
-        Checks.due("the first, then one alone", Checks.pages(galley(3, 2, 1, 1)), "0 0 0 1");
+        Checks.due("the first at the foot", Checks.pages(Checks.filled(3, 2, 3)), "0 0 1 1 1");
+        Checks.due("two at the foot", Checks.pages(Checks.filled(3, 1, 4)), "0 0 0 1 1");
+        Checks.due("the first when all fit", Checks.pages(Checks.filled(3, 2, 1)), "0 0 0");
+        Checks.due("the first, then one alone", Checks.pages(Checks.filled(3, 2, 1, 1)), "0 0 0 1");
     }
 
     private static void lastLineAlone() {
-        Checks.due("the last at the head", Checks.pages(galley(4, 5)), "0 0 0 1 1");
-        Checks.due("the last and one more", Checks.pages(galley(4, 5, 1)), "0 0 0 1 1 1");
-        Checks.due("two at the head", Checks.pages(galley(4, 6)), "0 0 0 0 1 1");
-        Checks.due("at the head of the third page", Checks.pages(galley(3, 4, 3)), "0 0 1 1 2 2 2");
+        Checks.due("the last at the head", Checks.pages(Checks.filled(4, 5)), "0 0 0 1 1");
+        Checks.due("the last and one more", Checks.pages(Checks.filled(4, 5, 1)), "0 0 0 1 1 1");
+        Checks.due("two at the head", Checks.pages(Checks.filled(4, 6)), "0 0 0 0 1 1");
+        Checks.due("at the head of the third page", Checks.pages(Checks.filled(3, 4, 3)), "0 0 1 1 2 2 2");
     }
 
     private static void comesToNone() {
-        Checks.due("three lines, two a page", Checks.pages(galley(2, 3)), "0 0 1");
-        Checks.due("two of three lines", Checks.pages(galley(2, 3, 3)), "0 0 1 2 2 3");
-        Checks.due("pairs, three a page", Checks.pages(galley(3, 2, 2, 2)), "0 0 1 1 2 2");
+        Checks.due("three lines, two a page", Checks.pages(Checks.filled(2, 3)), "0 0 1");
+        Checks.due("two of three lines", Checks.pages(Checks.filled(2, 3, 3)), "0 0 1 2 2 3");
+        Checks.due("pairs, three a page", Checks.pages(Checks.filled(3, 2, 2, 2)), "0 0 1 1 2 2");
     }
 
     private static void manyLess() {
         // With one line less the last one of the second paragraph is not alone, but then its first is.
-        Checks.due("two less", Checks.pages(galley(4, 2, 3)), "0 0 1 1 1");
-        Checks.due("two less again", Checks.pages(galley(5, 3, 3, 1)), "0 0 0 1 1 1 1");
-        Checks.due("back into the paragraph in front", Checks.pages(galley(3, 1, 3)), "0 1 1 1");
+        Checks.due("two less", Checks.pages(Checks.filled(4, 2, 3)), "0 0 1 1 1");
+        Checks.due("two less again", Checks.pages(Checks.filled(5, 3, 3, 1)), "0 0 0 1 1 1 1");
+        Checks.due("back into the paragraph in front", Checks.pages(Checks.filled(3, 1, 3)), "0 1 1 1");
     }
 
     private static void heightThatIsNow() {
-        GalleySetter s = galley(30, 5, 1, 4);
+        GalleySetter s = Checks.filled(30, 5, 1, 4);
         Checks.due("30", Checks.pages(s), "0 0 0 0 0 0 0 0 0 0");
         s.set(8, 4);
         Checks.due("4", Checks.pages(s), "0 0 0 1 1 1 2 2 2 2");
@@ -84,7 +72,7 @@ public final class PageTest {
     }
 
     private static void pagesMove() {
-        GalleySetter s = galley(4, 3, 1);
+        GalleySetter s = Checks.filled(4, 3, 1);
         Checks.due("page", s.page(3), 0);
         Checks.paragraph(s, "a a");
         Checks.due("as before", Checks.pages(s), "0 0 0 0 1 1");
@@ -96,7 +84,7 @@ public final class PageTest {
     }
 
     private static void cleared() {
-        GalleySetter s = galley(3, 2, 2);
+        GalleySetter s = Checks.filled(3, 2, 2);
         Checks.pattern(s, "1b");
         s.set(0, 60);
         Checks.typed(s, "aabbb");

@@ -1,14 +1,13 @@
-import java.util.ArrayList;
-import java.util.List;
+import java.util.Arrays;
+import java.util.concurrent.Callable;
 
-/**
- * Promises 4 to 16 against a slow second writing of the document: all ways to break a text are
- * written out and compared, and nothing is shared with the class.
- */
+/** All promises: runs of 512 calls, good and wrong ones, each answered as the reference answers it. */
 public final class ReferenceTest {
-    private static final int RUNS = 1500;
-    private static final int CALLS = 90;
-    private static final int WAYS_LIMIT = 20000;
+    private static final int RUNS = 6000;
+    private static final int CALLS = 512;
+    /** Wiping, the longest text, one character too many and the call that takes it. */
+    private static final int DEAREST_STEP = 83;
+    private static final int CALLS_FOR_LOOKING = 120;
 
     /** Always the same numbers, so that a fault shows again. */
     private static final class Numbers {
@@ -32,287 +31,156 @@ public final class ReferenceTest {
         }
     }
 
-    private record Break(int end, int start, boolean point) {
-    }
+    /** The class and the reference get the same calls; what later ones than the 512th answer is free. */
+    private static final class Pair {
+        final GalleySetter s = new GalleySetter();
+        final Reference r = new Reference();
+        final String name;
+        int calls = 0;
 
-    private record Piece(String characters, int from, int to, int excess, int badness, int kind, boolean last) {
-    }
-
-    private record SetLine(String characters, List<Integer> places, int mark, int number, int of) {
-    }
-
-    private static final class Model {
-        final List<String> patternLetters = new ArrayList<>();
-        final List<String> patternTexts = new ArrayList<>();
-        final int[] p = {120, 6, 3, 2, 50, 3000, 3000, 200, 10};
-        final int[] widths = new int[128];
-        final List<SetLine> galley = new ArrayList<>();
-        long demerits = 0;
-        List<Piece> best;
-        long bestSum;
-        int seen;
-
-        Model() {
-            java.util.Arrays.fill(widths, 10);
+        Pair(String name) {
+            this.name = name;
         }
 
-        String pattern(String typed) {
-            if (!typed.matches("\\.?([0-9]?[a-z]){1,8}[0-9]?\\.?")) {
-                return "IllegalArgumentException";
-            }
-            String letters = typed.replaceAll("[0-9]", "");
-            int old = patternLetters.indexOf(letters);
-            if (old < 0 && patternLetters.size() == 30) {
-                return "IllegalStateException";
-            }
-            if (old >= 0) {
-                patternLetters.remove(old);
-                patternTexts.remove(old);
-            }
-            patternLetters.add(letters);
-            patternTexts.add(typed);
-            return "" + patternLetters.size();
+        int left() {
+            return CALLS - calls;
         }
 
-        boolean divides(String word, int i) {
-            String dotted = "." + word + ".";
-            int greatest = 0;
-            for (int n = 0; n < patternLetters.size(); n++) {
-                String letters = patternLetters.get(n);
-                for (int at = dotted.indexOf(letters); at >= 0; at = dotted.indexOf(letters, at + 1)) {
-                    greatest = Math.max(greatest, digitInFront(patternTexts.get(n), i + 1 - at));
-                }
-            }
-            return i >= 2 && i <= word.length() - 2 && greatest % 2 == 1;
+        void same(String what, Callable<?> call, Object due) {
+            calls++;
+            Checks.due(name + " call " + calls + " " + what, Checks.outcome(call), String.valueOf(due));
         }
 
-        /** The digit in front of the pattern's letter of that number, or behind the last one. */
-        private static int digitInFront(String text, int number) {
-            int passed = 0;
-            for (char c : text.toCharArray()) {
-                if (!Character.isDigit(c)) {
-                    passed++;
-                } else if (passed == number) {
-                    return c - '0';
-                }
-            }
-            return 0;
+        void done(String what, Runnable call, Object due) {
+            same(what, () -> {
+                call.run();
+                return "done";
+            }, due);
         }
 
-        String points(String typed) {
-            if (!typed.matches("[a-z]{1,20}")) {
-                return "IllegalArgumentException";
-            }
-            int bits = 0;
-            for (int i = 0; i < typed.length(); i++) {
-                bits |= divides(typed, i) ? 1 << i : 0;
-            }
-            return "" + bits;
-        }
-
-        String paragraph(String typed) {
-            if (!typed.matches(" *[a-z]{1,20}( +[a-z]{1,20})* *")) {
-                return "IllegalArgumentException";
-            }
-            String text = typed.trim().replaceAll(" +", " ");
-            best = null;
-            seen = 0;
-            walk(text, breaks(text), 0, new ArrayList<>());
-            if (seen > WAYS_LIMIT) {
-                return "too many";
-            }
-            if (best == null) {
-                return "IllegalStateException";
-            }
-            if (galley.size() + best.size() > 60) {
-                return "UnsupportedOperationException";
-            }
-            for (int i = 0; i < best.size(); i++) {
-                galley.add(justified(best.get(i), i, best.size()));
-            }
-            demerits = bestSum;
-            return "" + best.size();
-        }
-
-        private List<Break> breaks(String text) {
-            List<Break> all = new ArrayList<>();
-            all.add(new Break(0, 0, false));
-            int at = 0;
-            for (String word : text.split(" ")) {
-                for (int i = 0; i < word.length(); i++) {
-                    if (divides(word, i)) {
-                        all.add(new Break(at + i, at + i, true));
-                    }
-                }
-                at += word.length();
-                all.add(new Break(at, at + 1, false));
-                at++;
-            }
-            return all;
-        }
-
-        private void walk(String text, List<Break> breaks, int from, List<Piece> way) {
-            if (seen > WAYS_LIMIT) {
-                return;
-            }
-            seen++;
-            if (from == breaks.size() - 1) {
-                compare(way, breaks);
-                return;
-            }
-            for (int to = from + 1; to < breaks.size(); to++) {
-                Piece piece = piece(text, breaks, from, to);
-                if (piece != null) {
-                    way.add(piece);
-                    walk(text, breaks, to, way);
-                    way.remove(way.size() - 1);
-                }
-            }
-        }
-
-        private Piece piece(String text, List<Break> breaks, int from, int to) {
-            String characters = text.substring(breaks.get(from).start(), breaks.get(to).end())
-                    + (breaks.get(to).point() ? "-" : "");
-            int g = (int) characters.chars().filter(c -> c == ' ').count();
-            int e = p[0] - widthOf(characters);
-            boolean last = to == breaks.size() - 1;
-            if (e == 0 || last && e >= 0) {
-                return new Piece(characters, from, to, e, 0, 1, last);
-            }
-            double s = g * (e > 0 ? p[2] : p[3]);
-            if (s == 0 || -e > s) {
-                return null;
-            }
-            java.math.BigInteger cube = java.math.BigInteger.valueOf(Math.abs(e)).pow(3);
-            java.math.BigInteger give = java.math.BigInteger.valueOf((long) s).pow(3);
-            long badness = cube.multiply(java.math.BigInteger.valueOf(100)).divide(give).longValueExact();
-            if (badness > p[7]) {
-                return null;
-            }
-            int kind = Math.abs(e) * 2 <= s ? 1 : e < 0 ? 0 : e <= s ? 2 : 3;
-            return new Piece(characters, from, to, e, (int) badness, kind, last);
-        }
-
-        private int widthOf(String characters) {
-            int sum = 0;
+        void type(String characters) {
             for (char c : characters.toCharArray()) {
-                sum += c == ' ' ? p[1] : widths[c];
-            }
-            return sum;
-        }
-
-        private void compare(List<Piece> way, List<Break> breaks) {
-            long sum = 0;
-            int kind = 1;
-            for (Piece piece : way) {
-                sum += (10L + piece.badness()) * (10L + piece.badness());
-                boolean divided = breaks.get(piece.to()).point();
-                sum += divided ? (long) p[4] * p[4] : 0;
-                sum += divided && breaks.get(piece.from()).point() ? p[5] : 0;
-                sum += Math.abs(kind - piece.kind()) > 1 ? p[6] : 0;
-                kind = piece.kind();
-            }
-            if (best == null || sum < bestSum || sum == bestSum && goesFirst(way, best)) {
-                best = new ArrayList<>(way);
-                bestSum = sum;
+                same("type " + c, () -> s.type(c), r.type(c));
             }
         }
 
-        private static boolean goesFirst(List<Piece> way, List<Piece> other) {
-            for (int i = 1; i <= Math.min(way.size(), other.size()); i++) {
-                int from = way.get(way.size() - i).from();
-                int otherFrom = other.get(other.size() - i).from();
-                if (from != otherFrom) {
-                    return from < otherFrom;
-                }
-            }
-            return false;
+        void wipe() {
+            r.wipe();
+            done("wipe", s::wipe, "done");
         }
 
-        private SetLine justified(Piece piece, int number, int of) {
-            List<Integer> places = new ArrayList<>();
-            String c = piece.characters();
-            int g = c.length() - c.replace(" ", "").length();
-            for (int i = 0; i < c.length(); i++) {
-                String front = c.substring(0, i);
-                int j = front.length() - front.replace(" ", "").length();
-                int more = g == 0 || piece.last() && piece.excess() > 0 ? 0 : (int) ((double) piece.excess() * j / g);
-                places.add(widthOf(front) + more);
-            }
-            return new SetLine(c, places, piece.badness() + 10000 * piece.kind(), number, of);
+        void set(int parameter, int v) {
+            done("set " + parameter + " " + v, () -> s.set(parameter, v), r.set(parameter, v));
         }
 
-        List<Integer> pages() {
-            List<Integer> all = new ArrayList<>();
-            for (int page = 0; all.size() < galley.size(); page++) {
-                int left = galley.size() - all.size();
-                int length = Math.min(p[8], left);
-                while (length > 0 && length < left && alone(all.size() + length)) {
-                    length--;
-                }
-                for (int i = length == 0 ? p[8] : length; i > 0; i--) {
-                    all.add(page);
-                }
-            }
-            return all;
+        void width(char c, int w) {
+            done("width " + c + " " + w, () -> s.width(c, w), r.width(c, w));
         }
 
-        private boolean alone(int next) {
-            SetLine foot = galley.get(next - 1);
-            SetLine head = galley.get(next);
-            return foot.of() > 1 && foot.number() == 0 || head.of() > 1 && head.number() == head.of() - 1;
+        void clear() {
+            r.clear();
+            done("clear", s::clear, "done");
+        }
+
+        void paragraph() {
+            String due = r.paragraph();
+            if (due.equals(Reference.TOO_MANY)) {
+                wipe();
+            } else {
+                same("paragraph", s::paragraph, due);
+            }
+            count(due);
         }
     }
 
-    private static int[] outcomes = new int[5];
+    private static final String[] REFUSED = {
+        Reference.ARGUMENT, Reference.STATE, Reference.UNSUPPORTED, Reference.TOO_MANY,
+    };
+    private static final int[] refused = new int[REFUSED.length];
+    private static int setInOneLine = 0;
+    private static int setInSeveral = 0;
 
     public static void main(String[] args) {
         for (int run = 0; run < RUNS; run++) {
-            oneRun(run, new Numbers(run));
+            oneRun(new Pair("run " + run), new Numbers(run));
         }
-        Checks.holds("many paragraphs were set", outcomes[0] > 10000);
-        Checks.holds("some could not be set", outcomes[1] > 1000);
-        Checks.holds("some had no room", outcomes[2] > 50);
-        Checks.holds("some had several lines", outcomes[3] > 5000);
-        Checks.holds("some had hyphens", outcomes[4] > 500);
+        Checks.holds("many texts were set in a line: " + setInOneLine, setInOneLine > 5000);
+        Checks.holds("many were set in several: " + setInSeveral, setInSeveral > 10000);
+        for (int i = 0; i < 3; i++) {
+            Checks.holds(refused[i] + " had " + REFUSED[i], refused[i] > 500);
+        }
         Checks.end();
     }
 
-    private static void oneRun(int run, Numbers n) {
-        GalleySetter s = new GalleySetter();
-        Model m = new Model();
-        boolean tied = n.once(2);
-        for (int call = 0; call < CALLS; call++) {
-            String what = "run " + run + " call " + call + " ";
-            switch (n.below(10)) {
-                case 0 -> onePattern(what, n, s, m);
-                case 1 -> oneParameter(n, s, m, tied);
-                case 2 -> oneWidth(n, s, m);
-                case 3 -> onePoints(what, n, s, m);
-                case 4 -> clearOrSet(what, n, s, m);
-                default -> oneParagraph(what, n, s, m);
-            }
-            Checks.due(what + "lines", s.lines(), m.galley.size());
-            Checks.due(what + "demerits", s.demerits(), m.demerits);
+    private static void count(String due) {
+        int kind = Arrays.asList(REFUSED).indexOf(due);
+        if (kind >= 0) {
+            refused[kind]++;
+        } else if (due.equals("1")) {
+            setInOneLine++;
+        } else {
+            setInSeveral++;
         }
-        compareAll("run " + run, s, m);
     }
 
-    private static void onePattern(String what, Numbers n, GalleySetter s, Model m) {
+    private static void oneRun(Pair pair, Numbers n) {
+        boolean tied = n.once(2);
+        boolean narrow = n.once(3);
+        for (int i = n.below(10); i > 0; i--) {
+            onePattern(pair, n);
+        }
+        for (int i = n.below(10); i > 0; i--) {
+            oneParameter(pair, n, tied);
+        }
+        for (int i = n.below(5); i > 0; i--) {
+            oneWidth(pair, n);
+        }
+        if (narrow) {
+            aLetterFillsALine(pair);
+        }
+        while (pair.left() > DEAREST_STEP + CALLS_FOR_LOOKING) {
+            oneStep(pair, n, tied, narrow);
+        }
+        while (pair.left() > 0) {
+            oneLook(pair, n);
+        }
+    }
+
+    private static void aLetterFillsALine(Pair pair) {
+        pair.set(0, 20);
+        pair.set(3, 2);
+        for (char c : new char[] {'a', 'b', 'c'}) {
+            pair.width(c, 20);
+        }
+    }
+
+    private static void oneStep(Pair pair, Numbers n, boolean tied, boolean narrow) {
+        switch (n.below(12)) {
+            case 0 -> onePattern(pair, n);
+            case 1 -> oneParameter(pair, n, tied);
+            case 2 -> oneWidth(pair, n);
+            case 3 -> onePoints(pair, n);
+            case 4 -> oneWrong(pair, n);
+            case 5 -> oneLook(pair, n);
+            default -> oneParagraph(pair, n, narrow);
+        }
+    }
+
+    private static void onePattern(Pair pair, Numbers n) {
         StringBuilder typed = new StringBuilder(n.once(4) ? "." : "");
-        int letters = 1 + n.below(3);
+        int letters = n.once(10) ? n.below(10) : 1 + n.below(3);
         for (int i = 0; i < letters; i++) {
-            typed.append(n.once(2) ? "" : n.below(6)).append((char) ('a' + n.below(3)));
+            typed.append(n.once(2) ? "" : n.below(n.once(30) ? 100 : 6)).append(letter(n));
         }
         typed.append(n.once(2) ? "" : n.below(6)).append(n.once(5) ? "." : "");
-        s.wipe();
-        Checks.typed(s, typed.toString());
-        Checks.due(what + "pattern " + typed, Checks.outcome(s::pattern), m.pattern(typed.toString()));
+        pair.wipe();
+        pair.type(typed.toString());
+        pair.same("pattern", pair.s::pattern, pair.r.pattern());
     }
 
-    private static void oneParameter(Numbers n, GalleySetter s, Model m, boolean tied) {
-        int p = n.below(9);
-        int v = switch (p) {
+    private static void oneParameter(Pair pair, Numbers n, boolean tied) {
+        int parameter = n.below(9);
+        pair.set(parameter, switch (parameter) {
             case 0 -> n.among(20, 30, 40, 60, 80, 100, 77);
             case 1 -> n.among(0, 2, 6, 10, 60);
             case 2 -> tied ? n.among(60, 50, 40) : n.among(0, 1, 3, 10, 20, 60);
@@ -322,79 +190,73 @@ public final class ReferenceTest {
             case 6 -> tied ? n.among(0, 0, 1) : n.among(0, 1, 3000, 99999);
             case 7 -> n.among(0, 200, 1000, 9999, 9999);
             default -> 2 + n.below(6);
-        };
-        s.set(p, v);
-        m.p[p] = v;
+        });
     }
 
-    private static void oneWidth(Numbers n, GalleySetter s, Model m) {
-        char c = "abc-".charAt(n.below(4));
-        int w = n.among(1, 5, 10, 15, 20, 7);
-        s.width(c, w);
-        m.widths[c] = w;
+    private static void oneWidth(Pair pair, Numbers n) {
+        pair.width("abc-".charAt(n.below(4)), n.among(1, 5, 10, 15, 20, 7));
     }
 
-    private static void onePoints(String what, Numbers n, GalleySetter s, Model m) {
-        String word = word(n, 1 + n.below(20));
-        s.wipe();
-        Checks.typed(s, word);
-        Checks.due(what + "points " + word, Checks.outcome(s::points), m.points(word));
+    private static void onePoints(Pair pair, Numbers n) {
+        pair.wipe();
+        pair.type(word(n, n.below(22)));
+        pair.same("points", pair.s::points, pair.r.points());
     }
 
-    private static void clearOrSet(String what, Numbers n, GalleySetter s, Model m) {
-        if (n.once(10)) {
-            compareAll(what, s, m);
-            s.clear();
-            m.galley.clear();
+    private static void oneWrong(Pair pair, Numbers n) {
+        switch (n.below(7)) {
+            case 0 -> pair.type("" + "A-,/:`{\u00e1".charAt(n.below(8)));
+            case 1 -> pair.set(n.among(-1, 9, Integer.MIN_VALUE, Integer.MAX_VALUE), 20);
+            case 2 -> pair.set(n.below(9), n.among(-1, 1, 19, 31, 61, 601, 1001, 10000, 100000, Integer.MIN_VALUE));
+            case 3 -> pair.width(letter(n), n.among(-1, 0, 61, Integer.MIN_VALUE, Integer.MAX_VALUE));
+            case 4 -> pair.width(",.`{ A0".charAt(n.below(7)), 10);
+            case 5 -> pair.same("pattern", pair.s::pattern, pair.r.pattern());
+            default -> pair.paragraph();
         }
     }
 
-    private static void oneParagraph(String what, Numbers n, GalleySetter s, Model m) {
+    private static void oneParagraph(Pair pair, Numbers n, boolean narrow) {
         StringBuilder typed = new StringBuilder(" ".repeat(n.below(2)));
-        int words = 1 + n.below(10);
-        int longest = n.among(1, 2, 4, 8);
-        for (int i = 0; i < words && typed.length() < 60; i++) {
+        int words = narrow ? 1 + n.below(42) : 1 + n.below(10);
+        int longest = narrow ? 1 : n.among(1, 2, 4, 8);
+        for (int i = 0; i < words && typed.length() < (narrow ? 80 : 60); i++) {
             typed.append(word(n, 1 + n.below(longest))).append(" ".repeat(1 + n.below(n.among(1, 2))));
         }
-        String due = m.paragraph(typed.toString());
-        if (due.equals("too many")) {
-            return;
+        if (n.once(30)) {
+            typed.append(n.once(2) ? "." : word(n, 21));
         }
-        s.wipe();
-        Checks.typed(s, typed.toString());
-        Checks.due(what + "paragraph " + typed, Checks.outcome(s::paragraph), due);
-        count(due, m);
+        pair.wipe();
+        pair.type(typed.substring(0, Math.min(typed.length(), 81)));
+        if (n.once(25)) {
+            pair.clear();
+        }
+        pair.paragraph();
     }
 
-    private static void count(String due, Model m) {
-        if (due.equals("IllegalStateException")) {
-            outcomes[1]++;
-        } else if (due.equals("UnsupportedOperationException")) {
-            outcomes[2]++;
-        } else {
-            outcomes[0]++;
-            outcomes[3] += m.best.size() > 1 ? 1 : 0;
-            outcomes[4] += m.best.stream().anyMatch(piece -> piece.characters().endsWith("-")) ? 1 : 0;
+    private static void oneLook(Pair pair, Numbers n) {
+        int k = n.below(pair.r.lines() + 2) - 1;
+        String size = pair.r.size(k);
+        int i = n.below(size.equals(Reference.INDEX) ? 2 : Integer.parseInt(size) + 2) - 1;
+        switch (n.below(8)) {
+            case 0 -> pair.same("lines", pair.s::lines, pair.r.lines());
+            case 1 -> pair.same("demerits", pair.s::demerits, pair.r.demerits());
+            case 2 -> pair.same("size " + k, () -> pair.s.size(k), pair.r.size(k));
+            case 3 -> pair.same("badness " + k, () -> pair.s.badness(k), pair.r.badness(k));
+            case 4 -> pair.same("page " + k, () -> pair.s.page(k), pair.r.page(k));
+            case 5 -> pair.same("at " + k + " " + i, () -> pair.s.at(k, i), pair.r.at(k, i));
+            default -> pair.same("x " + k + " " + i, () -> pair.s.x(k, i), pair.r.x(k, i));
         }
+    }
+
+    private static char letter(Numbers n) {
+        return (char) ('a' + n.below(3));
     }
 
     private static String word(Numbers n, int letters) {
         StringBuilder word = new StringBuilder();
         for (int i = 0; i < letters; i++) {
-            word.append((char) ('a' + n.below(3)));
+            word.append(letter(n));
         }
         return word.toString();
-    }
-
-    private static void compareAll(String what, GalleySetter s, Model m) {
-        List<Integer> pages = m.pages();
-        for (int k = 0; k < Math.min(m.galley.size(), s.lines()); k++) {
-            SetLine line = m.galley.get(k);
-            Checks.due(what + " line " + k, Checks.line(s, k), line.characters());
-            Checks.due(what + " places " + k, Checks.places(s, k),
-                    line.places().toString().replaceAll("[\\[\\],]", ""));
-            Checks.due(what + " badness " + k, s.badness(k), line.mark());
-            Checks.due(what + " page " + k, s.page(k), pages.get(k));
-        }
     }
 }

@@ -121,8 +121,8 @@ public final class StyleTest {
     }
 
     private static void widths() {
-        GalleySetter s = new GalleySetter();
         for (int c = 0; c <= 0xffff; c++) {
+            GalleySetter s = new GalleySetter();
             char named = (char) c;
             if (named >= 'a' && named <= 'z' || named == '-') {
                 s.width(named, 1);
