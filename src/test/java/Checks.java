@@ -53,6 +53,14 @@ final class Checks {
         GalleySetter tried = make.get();
         refused(what, want, () -> call.accept(tried));
         due("what is seen behind: " + what, state(tried), state(make.get()));
+        // How many characters are typed is seen by one more, but what they are is then seen no longer.
+        GalleySetter triedAgain = make.get();
+        refused(what, want, () -> call.accept(triedAgain));
+        due("what is seen by typing behind: " + what, stateByTyping(triedAgain), stateByTyping(make.get()));
+    }
+
+    private static String stateByTyping(GalleySetter setter) {
+        return outcome(() -> setter.type('a')) + " typed, " + state(setter);
     }
 
     /** All that can be seen of an object; it is used up by looking. */

@@ -14,6 +14,8 @@ public final class EdgeTextTest {
         hyphenAtAPoint();
         widthOfALine();
         manySpacesOfALine();
+        asTheyAreNow();
+        goesOnBehindARefusal();
         Checks.end();
     }
 
@@ -212,5 +214,43 @@ public final class EdgeTextTest {
         s.width('b', 16);
         Checks.due("one too wide", Checks.outcome(() ->
                 Checks.paragraph(s, "a ".repeat(39) + "b")), "IllegalStateException");
+    }
+
+    private static void asTheyAreNow() {
+        Checks.sentence("What is typed is set as a paragraph, as patterns, parameters and widths are now");
+        GalleySetter s = Checks.typed(with(40, "1bb"), "aabb cc");
+        s.set(0, 30);
+        s.width('b', 15);
+        Checks.due("MEASURE and a width that changed behind the text", Checks.outcome(s::paragraph), "3");
+        Checks.due("lines", Checks.galley(s), "aa-|bb|cc");
+        Checks.due("places", Checks.places(s, 1), "0 15");
+        Checks.pattern(s, "2bb");
+        Checks.due("a pattern that changed", lines(s, "aabb cc"), "IllegalStateException");
+        Checks.pattern(s, "1bb");
+        Checks.due("and changed again", lines(s, "aabb cc"), "aa-|bb|cc");
+        GalleySetter once = with(30, "1bb");
+        Checks.typed(once, "aabb").paragraph();
+        once.set(0, 600);
+        Checks.due("the same text, now in a line", Checks.typed(once, "aabb").paragraph(), 1);
+        Checks.due("what was set stays", Checks.galley(once), "aa-|bb|aabb");
+    }
+
+    private static void goesOnBehindARefusal() {
+        Checks.sentence("(What is typed stays then.)");
+        GalleySetter s = with(100, "1bb");
+        Checks.refused("nothing is typed", IllegalArgumentException.class, s::paragraph);
+        Checks.due("type", s.type(' '), 1);
+        Checks.refused("a space", IllegalArgumentException.class, s::paragraph);
+        Checks.due("type", s.type('a'), 2);
+        Checks.due("a word", s.paragraph(), 1);
+        s.set(0, 30);
+        Checks.typed(s, "aabbb");
+        s.set(0, 20);
+        Checks.refused("no way", IllegalStateException.class, s::paragraph);
+        Checks.due("type", s.type(' '), 6);
+        Checks.due("type", s.type('c'), 7);
+        s.set(0, 30);
+        Checks.due("a way", s.paragraph(), 3);
+        Checks.due("lines", Checks.galley(s), "a|aa-|bbb|c");
     }
 }
