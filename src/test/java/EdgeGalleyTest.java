@@ -85,7 +85,8 @@ public final class EdgeGalleyTest {
 
     /** Several exceptions fit: the one that is named first is thrown. */
     private static void refusedForOtherReasonsToo() {
-        Checks.sentence("IllegalArgumentException: ...; IllegalStateException: ...; UnsupportedOperationException: ...");
+        Checks.sentence("IllegalArgumentException: ...; IllegalStateException: ...; "
+                + "UnsupportedOperationException: ...");
         Checks.refusedAndStays("no text, when it is full", IllegalArgumentException.class,
                 () -> Checks.typed(Checks.filled(10, 20, 40), "a."), GalleySetter::paragraph);
         Checks.refusedAndStays("nothing typed, when it is full", IllegalArgumentException.class,

@@ -25,7 +25,8 @@ public final class EdgeTypingTest {
         Checks.due("the first", Checks.pattern(s, "a"), 1);
         GalleySetter other = new GalleySetter();
         for (int i = 1; i <= 30; i++) {
-            Checks.due("room for 30", Checks.typed(other, "" + (char) ('a' + i % 5) + (char) ('a' + i / 5)).pattern(), i);
+            Checks.typed(other, "" + (char) ('a' + i % 5) + (char) ('a' + i / 5));
+            Checks.due("room for 30", other.pattern(), i);
         }
     }
 
